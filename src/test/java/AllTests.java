@@ -1,0 +1,17 @@
+/** Runs every test of the project; argument: the program's source, and how many random runs. */
+public final class AllTests {
+    private AllTests() {
+    }
+
+    public static void main(String[] arguments) throws Exception {
+        Checks checks = new Checks();
+        new SittersTest(checks).runAll();
+        new HoursTest(checks).runAll();
+        new ShelvesTest(checks).runAll();
+        checks.lookForGaps();
+        new LanguageTest(checks).runAll(arguments[0]);
+        new RandomRuns(checks).runAll(Integer.parseInt(arguments[1]));
+        checks.tell("tests");
+        if (checks.failed() > 0) System.exit(1);
+    }
+}

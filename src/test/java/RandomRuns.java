@@ -1,0 +1,211 @@
+import java.lang.reflect.InvocationTargetException;
+import java.lang.reflect.Method;
+import java.util.Arrays;
+import java.util.HashMap;
+import java.util.Map;
+
+/** Runs of calls drawn from a fixed row of numbers: the program and PlainElbows must answer alike. */
+final class RandomRuns {
+    private static final int CALLS = 512;
+    private static final int[] EXTREMES = {Integer.MIN_VALUE, Integer.MAX_VALUE, -100, -2, -1, 99, 1000, 65536};
+
+    private final Map<String, Method> program = new HashMap<>();
+    private final Map<String, Method> plain = new HashMap<>();
+    private final String[] names;
+    private final Checks checks;
+    private long state = 1;
+    private TwoElbows x;
+    private PlainElbows y;
+    private int calls;
+
+    RandomRuns(Checks checks) {
+        this.checks = checks;
+        for (Method m : TwoElbows.class.getDeclaredMethods()) {
+            if (java.lang.reflect.Modifier.isPublic(m.getModifiers())) program.put(m.getName(), m);
+        }
+        for (Method m : PlainElbows.class.getDeclaredMethods()) {
+            if (java.lang.reflect.Modifier.isPublic(m.getModifiers())) plain.put(m.getName(), m);
+        }
+        names = program.keySet().toArray(new String[0]);
+        Arrays.sort(names);
+        checks.same(0, "both know 36 calls", plain.size() * 100 + program.size(), 3636);
+    }
+
+    void runAll(int runs) throws Exception {
+        for (int run = 1; run <= runs && checks.failed() == 0; run++) {
+            state = 7919L * run;
+            x = new TwoElbows();
+            y = new PlainElbows();
+            calls = 0;
+            runOne(run);
+        }
+    }
+
+    private void runOne(int run) throws Exception {
+        int wild = run % 10 == 0 ? 50 : 3;
+        begin(wild);
+        while (calls < CALLS) {
+            String name = names[below(names.length)];
+            if (name.equals("sitter") && below(4) > 0) name = "hours";
+            if (name.equals("go") && below(3) > 0) name = "led";
+            if (name.equals("law") || name.equals("feed") && below(3) == 0) tellLaw();
+            else call(name, argumentsOf(name, wild));
+        }
+        tellTheEnd();
+    }
+
+    private void begin(int wild) throws Exception {
+        int n = 1 + below(8);
+        for (int k = 0; k < n; k++) call("sitter", below(1000));
+        for (int k = 0; k < 2 * n; k++) call("hours", argumentsOf("hours", wild));
+        for (int k = 0; k < 7; k++) call("wide", k, below(10));
+        for (int k = 0; k < 2 * n; k++) call("mend", below(n), 3 + below(2), below(100));
+        if (below(4) > 0) tellLaw();
+        for (int shelf = 0; shelf < 3; shelf++) call("row", shelf, below(5) / 2, below(61));
+    }
+
+    /** All that can be asked without a change, so that hidden differences show. */
+    private void tellTheEnd() throws Exception {
+        for (int s = -1; s < 9; s++) {
+            for (int what = -1; what < 9; what++) call("of", s, what);
+            for (int h = 99; h < 125; h++) call("of", s, h);
+            for (int what = -1; what < 6; what++) call("rest", s, what);
+            call("count", s);
+        }
+        for (int hr = 0; hr < 240; hr++) {
+            for (int what = 0; what < 3; what++) call("led", hr, what);
+        }
+        for (int shelf = 0; shelf < 6; shelf++) {
+            for (int i = 0; i < 60; i++) call("element", shelf, i);
+        }
+        for (int i = 0; i < 25; i++) call("trace", i);
+        for (int i = 0; i < 42; i++) call("undo");
+        for (int i = 0; i < 42; i++) call("redo");
+    }
+
+    private void tellLaw() throws Exception {
+        if (below(12) == 0) {
+            for (int k = 0; k < 122; k++) call("feed", below(2) == 0 ? 's' : "+*-&|;"  .charAt(below(6)));
+            call("law");
+            return;
+        }
+        StringBuilder text = new StringBuilder();
+        int lines = 1 + below(3);
+        for (int k = 0; k < lines; k++) {
+            if (k > 0) text.append(';');
+            if (k + 1 < lines || below(4) == 0) {
+                expression(text, 2);
+                text.append('?');
+            }
+            expression(text, 3);
+        }
+        if (below(5) == 0) text.setCharAt(below(text.length()), "sprijzmch0123456789()!-+*/%<=>&|?; x".charAt(below(36)));
+        if (below(9) == 0) text.setLength(below(text.length()));
+        if (text.length() > 119) text.setLength(119);
+        for (int k = 0; k < text.length(); k++) call("feed", text.charAt(k));
+        call("law");
+    }
+
+    private void expression(StringBuilder text, int depth) {
+        int terms = 1 + below(3);
+        for (int k = 0; k < terms; k++) {
+            if (k > 0) text.append("|&<=>+-*/%+-*/".charAt(below(14)));
+            operand(text, depth);
+        }
+    }
+
+    private void operand(StringBuilder text, int depth) {
+        int kind = below(depth > 0 ? 10 : 6);
+        if (kind < 5) {
+            text.append("sprijzmchcpi".charAt(below(12)));
+        } else if (kind < 6) {
+            text.append(below(3) == 0 ? below(10000) : below(20));
+        } else if (kind < 8) {
+            text.append("!-".charAt(below(2)));
+            operand(text, depth - 1);
+        } else {
+            text.append('(');
+            expression(text, depth - 1);
+            text.append(')');
+        }
+    }
+
+    private long[] argumentsOf(String name, int wild) {
+        Class<?>[] types = program.get(name).getParameterTypes();
+        long[] a = new long[types.length];
+        for (int k = 0; k < a.length; k++) a[k] = below(9);
+        switch (name) {
+            case "sitter": a[0] = below(1000); break;
+            case "sitters": a[0] = below(6); a[1] = below(12); a[2] = 1 + below(8); break;
+            case "wide": a[0] = below(7); a[1] = below(10); break;
+            case "hours": a[1] = 100L * below(24) + below(24); a[2] = below(4); break;
+            case "mend": a[1] = below(5); a[2] = below(a[1] < 3 ? 10 : 100); break;
+            case "of": a[1] = below(2) == 0 ? below(9) : 99 + below(26); break;
+            case "feed": a[0] = below(256); break;
+            case "rest": a[0] = below(8); a[1] = below(5); break;
+            case "strength": a[1] = a[0] - below(2); a[2] = below(100); break;
+            case "go": a[0] = below(2) == 0 ? below(100) : seed(); a[1] = 1 + below(4); break;
+            case "led": a[0] = below(240); a[1] = below(3); break;
+            case "judge": a[0] = below(3); a[1] = below(7); break;
+            case "then": a[0] = seed(); a[1] = below(25); a[2] = below(9) - 1; a[3] = below(2); break;
+            case "quiet": case "change": a[0] = seed(); break;
+            case "seat": case "wider": a[0] = seed(); break;
+            case "both": a[1] = below(2); break;
+            case "deals": a[1] = below(3); break;
+            case "body": a[0] = below(8); break;
+            case "act": a[0] = below(52); a[1] = below(4); a[2] = seed(); break;
+            case "trace": a[0] = below(26); break;
+            case "keep": a[0] = below(7); a[1] = below(12) - 1; break;
+            case "row": a[0] = below(6); a[1] = below(5); a[2] = below(64) - 2; break;
+            case "put": a[0] = below(6); a[1] = below(30); a[2] = below(3) == 0 ? next() : below(10); break;
+            case "element": a[0] = below(6); a[1] = below(30); break;
+            case "shift": a[0] = below(6); a[2] = below(3) == 0 ? a[0] : below(6); a[1] = below(20); a[3] = below(20);
+                a[4] = below(20); break;
+            case "taken": a[0] = below(6); break;
+            case "count": a[0] = below(9); break;
+            default: break;
+        }
+        for (int k = 0; k < a.length; k++) {
+            if (below(100) < wild) a[k] = below(2) == 0 ? EXTREMES[below(EXTREMES.length)] : a[k] + below(40) - 20;
+        }
+        return a;
+    }
+
+    private void call(String name, long... a) throws Exception {
+        Method m = program.get(name);
+        Object[] arguments = new Object[a.length];
+        for (int k = 0; k < a.length; k++) {
+            if (m.getParameterTypes()[k] == long.class) arguments[k] = a[k];
+            else arguments[k] = (int) a[k];
+        }
+        long got = ((Number) m.invoke(x, arguments)).longValue();
+        calls++;
+        if (got != due(name, arguments)) {
+            checks.same(0, "run of " + state + ", call " + calls + ": " + name + Arrays.toString(a), got, due(name, arguments));
+        } else {
+            checks.countOne();
+        }
+    }
+
+    private long due(String name, Object[] arguments) throws Exception {
+        try {
+            return ((Number) plain.get(name).invoke(y, arguments)).longValue();
+        } catch (InvocationTargetException thrown) {
+            if (thrown.getCause() instanceof PlainElbows.Refused) return ((PlainElbows.Refused) thrown.getCause()).code;
+            throw thrown;
+        }
+    }
+
+    private long next() {
+        state = state * 6364136223846793005L + 1442695040888963407L;
+        return state;
+    }
+
+    private int seed() {
+        return (int) (next() >>> 20);
+    }
+
+    private int below(int n) {
+        return (int) ((next() >>> 33) % n);
+    }
+}
