@@ -142,6 +142,21 @@ final class HoursTest {
         x.go(0, 22);
         c.same(13, "led(231, 0)", x.led(231, 0), 2);
         c.same(13, "led(241, 0)", x.led(241, 0), BAD);
+        x = Scene.of(930, 950);
+        Scene.law(x, "h=20?0-1*(p=3)+1;p-3");
+        x.wide(0, 1);
+        x.hours(0, 1919, 2);
+        x.hours(1, 1919, 2);
+        x.go(0, 24);
+        c.same(13, "the RIGHT holds one in 18", x.led(180, 1), 1);
+        c.same(13, "none in 19", x.led(190, 1), 0);
+        c.same(13, "one again in 20", x.led(200, 1), 1);
+        x = Scene.of(950, 931);
+        Scene.law(x, "h<20?(p=3)*9;p");
+        x.go(0, 24);
+        for (int hour = 0; hour < 24; hour++) {
+            c.same(13, "a FIGHT in " + hour, x.led(10 * hour, 2), hour == 20 || hour == 21 ? 1 : 0);
+        }
     }
 
     private void judge() {
@@ -224,6 +239,12 @@ final class HoursTest {
         c.same(15, "WIDE as it was", x.match(), 0);
         x.hours(0, 323, 2);
         c.same(15, "HOURS to come are not asked", x.match(), 0);
+        x = Scene.of(950, 930);
+        x.go(0, 3);
+        x.wide(0, 1);
+        c.same(15, "LEFT's alone are otherwise", x.match(), NOT);
+        x.wide(0, 2);
+        c.same(15, "WIDE as it was", x.match(), 0);
         fightsAlone();
     }
 
@@ -348,6 +369,8 @@ final class HoursTest {
         c.same(19, "out of the middle, first pair of like ones", x.change(0), 1);
         x = Scene.of(930, 910, 90, 920);
         c.same(19, "SIZE 0 to the wall: the sum of all is greatest", x.change(0), 2);
+        x = Scene.of(240, 930, 90, 920);
+        c.same(19, "SIZE 0 to the aisle", x.change(0), 23);
         x.go(0, 24);
         c.same(19, "at the end", x.change(0), NOT);
         x = Scene.of(950, 950, 950);
@@ -367,13 +390,16 @@ final class HoursTest {
         c.same(20, "inches stay", x.rest(0, 2), 2);
         x.go(0, 22);
         c.same(20, "at the end", x.wider(0, 0), 0);
+        x = Scene.fought();
+        x.then(0, 3, -1, 0);
+        c.same(20, "whatever was thought before", x.wider(0, 0), 0);
         c.same(20, "nobody", new TwoElbows().wider(0, 0), BAD);
     }
 
     private void both() {
         int[][] due = {
             {9, 9, 9, 4, 9}, {9, 9, 8, 4, 8}, {9, 9, 0, 0, 0}, {3, 3, 9, 3, 6}, {3, 1, 4, 3, 4}, {1, 3, 4, 1, 4}, {9, 0, 5, 5, 5},
-            {0, 9, 5, 0, 5}, {0, 0, 9, 0, 0}, {5, 5, 9, 4, 9}, {2, 9, 9, 2, 9}, {9, 2, 9, 7, 9}, {4, 4, 9, 4, 8}, {3, 3, 8, 3, 6}, {1, 1, 1, 0, 1},
+            {0, 9, 5, 0, 5}, {0, 0, 9, 0, 0}, {5, 5, 9, 4, 9}, {2, 9, 9, 2, 9}, {9, 2, 9, 7, 9}, {4, 4, 9, 4, 8}, {4, 9, 9, 4, 9}, {9, 4, 9, 5, 9}, {6, 4, 7, 3, 7}, {4, 6, 8, 4, 8}, {9, 3, 8, 5, 8}, {2, 4, 8, 2, 6}, {4, 2, 8, 4, 6}, {3, 3, 8, 3, 6}, {1, 1, 1, 0, 1},
         };
         for (int[] d : due) {
             TwoElbows x = Scene.of(d[0] * 100, d[1] * 100);
@@ -413,6 +439,13 @@ final class HoursTest {
         x.mend(0, 0, 5);
         x.mend(1, 0, 0);
         c.same(22, "the LEFT can use one more", x.deals(0, 1), 1);
+        x.mend(1, 3, 20);
+        c.same(22, "the RIGHT asks as much as is offered", x.deals(0, 1), 0);
+        x.mend(1, 3, 0);
+        x.mend(0, 0, 2);
+        c.same(22, "the LEFT holds more than it can use", x.deals(0, 1), 0);
+        c.same(22, "so none goes", x.sell(0), 0);
+        x.mend(0, 0, 5);
         c.same(22, "in thought", x.rest(0, 1), 4);
     }
 

@@ -121,7 +121,7 @@ final class RandomRuns {
         } else if (kind < 6) {
             text.append(below(3) == 0 ? below(10000) : below(20));
         } else if (kind < 8) {
-            text.append("!-".charAt(below(2)));
+            for (int n = below(5) == 0 ? 1 + below(8) : 1; n > 0; n--) text.append("!-".charAt(below(2)));
             operand(text, depth - 1);
         } else {
             text.append('(');

@@ -127,6 +127,25 @@ final class ShelvesTest {
         x.mend(0, 4, 9);
         c.same(26, "count(5)", x.count(5), 40);
         c.same(27, "none", x.redo(), STATE);
+        undoFortyOfAll();
+    }
+
+    /** Changes of all sitters and all that can be mended, by turns: each goes back and comes again as it was. */
+    private void undoFortyOfAll() {
+        TwoElbows x = Scene.of(0, 0, 0);
+        int n = 57;
+        for (int k = 0; k < n; k++) x.mend(k % 3, k % 5, 1 + k / 15);
+        for (int k = n - 1; k >= n - 40; k--) {
+            c.same(26, "change " + k + " is there", x.of(k % 3, k % 5), 1 + k / 15);
+            x.undo();
+            c.same(26, "change " + k + " is UNDONE", x.of(k % 3, k % 5), k / 15);
+        }
+        c.same(26, "none", x.undo(), STATE);
+        for (int k = n - 40; k < n; k++) {
+            x.redo();
+            c.same(27, "change " + k + " is DONE AGAIN", x.of(k % 3, k % 5), 1 + k / 15);
+        }
+        c.same(27, "none", x.redo(), STATE);
     }
 
     private void body() {
