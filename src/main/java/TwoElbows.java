@@ -956,18 +956,18 @@ public final class TwoElbows {
         }
 
         int leftOf(int hour, int rest) {
-            return isWritable(hour, rest) ? left[hour * RESTS + rest] : 0;
+            return isWithin(hour, rest) ? left[hour * RESTS + rest] : 0;
         }
 
         int rightOf(int hour, int rest) {
-            return isWritable(hour, rest) ? right[hour * RESTS + rest] : 0;
+            return isWithin(hour, rest) ? right[hour * RESTS + rest] : 0;
         }
 
         int fightOf(int hour, int rest) {
-            return isWritable(hour, rest) ? fight[hour * RESTS + rest] : 0;
+            return isWithin(hour, rest) ? fight[hour * RESTS + rest] : 0;
         }
 
-        private static boolean isWritable(int hour, int rest) {
+        private static boolean isWithin(int hour, int rest) {
             return hour >= 0 && hour < HOURS && rest >= 0 && rest < RESTS;
         }
     }
