@@ -39,10 +39,11 @@ public final class TwoElbows {
     }
 
     public int sitters(int shelf, int i, int n) {
-        if (!isShelf(shelf) || i < 0 || n < 1 || n > SEATS) return BAD;
+        if (!isShelf(shelf) || n < 1 || n > SEATS) return BAD;
         Shelf from = shelves[shelf];
         if (from.sort != Shelf.NOTHING && from.sort != Shelf.BYTES) return UNLIKE;
         if (deed.now != 0) return STATE;
+        // A place that is not there, below 0 too, is no refusal: the row ends there, and none come.
         int came = 0;
         while (came < n && comesFrom(from, i + 3 * came)) came++;
         return came;
@@ -151,9 +152,9 @@ public final class TwoElbows {
         Shelf told = shelves[shelf];
         if (told.sort == Shelf.NOTHING) return MISSING;
         if (told.sort != Shelf.BYTES) return UNLIKE;
-        for (int hour = 0; hour < deed.now && told.hasPlace(2 * hour + 1); hour++) {
-            if (told.at(2 * hour) != past.leftOf(hour, rest)) return hour;
-            if (told.at(2 * hour + 1) != past.rightOf(hour, rest)) return hour;
+        for (int hour = 0; hour < deed.now; hour++) {
+            if (isToldElse(told, 2 * hour, past.leftOf(hour, rest))) return hour;
+            if (isToldElse(told, 2 * hour + 1, past.rightOf(hour, rest))) return hour;
         }
         return NOT;
     }
@@ -367,6 +368,11 @@ public final class TwoElbows {
         if (held.sort == Shelf.NOTHING) return MISSING;
         if (!held.isRow()) return UNLIKE;
         return held.hasPlace(i) ? 0 : NO_PLACE;
+    }
+
+    /** Whether a ROW tells other inches at a place; behind its end it tells nothing. */
+    private static boolean isToldElse(Shelf told, int place, int inches) {
+        return told.hasPlace(place) && told.at(place) != inches;
     }
 
     /** Whether a SITTER came from the three elements from place on. */

@@ -176,7 +176,15 @@ final class HoursTest {
         Scene.row(x, 0, 0, 0, 1, 0, 2);
         c.same(14, "it ends before", x.judge(0, 0), NOT);
         Scene.row(x, 0, 0, 0, 1, 0, 2, 9);
-        c.same(14, "it ends within a two", x.judge(0, 0), NOT);
+        c.same(14, "it ends within a two, LEFT's not so", x.judge(0, 0), 2);
+        Scene.row(x, 0, 0, 0, 1, 0, 2, 1);
+        c.same(14, "it ends within a two, LEFT's so", x.judge(0, 0), NOT);
+        Scene.row(x, 0, 0, 9);
+        c.same(14, "LEFT's of HOUR 0 alone, not so", x.judge(0, 0), 0);
+        Scene.row(x, 0, 0, 0);
+        c.same(14, "LEFT's of HOUR 0 alone, so", x.judge(0, 0), NOT);
+        Scene.row(x, 0, 0, 0, 1, 0, 2, 1, 1, 2, 0, 2, 0, 9);
+        c.same(14, "LEFT's of NOW, not so far", x.judge(0, 0), NOT);
         x.row(0, 0, 0);
         c.same(14, "it is empty", x.judge(0, 0), NOT);
         c.same(14, "nothing there", x.judge(1, 0), -11);

@@ -308,7 +308,6 @@ public final class PlainElbows {
     public int sitters(int shelf, int i, int n) {
         within(shelf, 0, 5);
         within(n, 1, 8);
-        within(i, 0, Integer.MAX_VALUE);
         want(shelves[shelf] == null || shelves[shelf] instanceof byte[], -12);
         want(now() == 0, STATE);
         byte[] row = (byte[]) shelves[shelf];
@@ -450,9 +449,8 @@ public final class PlainElbows {
         want(shelves[shelf] != null, -11);
         want(shelves[shelf] instanceof byte[], -12);
         byte[] told = (byte[]) shelves[shelf];
-        for (int hour = 0; hour < Math.min(now(), told.length / 2); hour++) {
-            int[] was = past.get(hour).rests[rest];
-            if (told[2 * hour] != was[0] || told[2 * hour + 1] != was[1]) return hour;
+        for (int at = 0; at < told.length && at / 2 < now(); at++) {
+            if (told[at] != past.get(at / 2).rests[rest][at % 2]) return at / 2;
         }
         return NOT;
     }

@@ -49,6 +49,7 @@ final class RandomRuns {
             if (name.equals("sitter") && below(4) > 0) name = "hours";
             if (name.equals("go") && below(3) > 0) name = "led";
             if (name.equals("law") || name.equals("feed") && below(3) == 0) tellLaw();
+            else if (name.equals("judge") && y.men.size() > 1 && below(2) == 0) judgeWhatWas();
             else call(name, argumentsOf(name, wild));
         }
         tellTheEnd();
@@ -81,6 +82,17 @@ final class RandomRuns {
         for (int i = 0; i < 25; i++) call("trace", i);
         for (int i = 0; i < 42; i++) call("undo");
         for (int i = 0; i < 42; i++) call("redo");
+    }
+
+    /** A row of what was, of any length (within a two, too), with one element that may be otherwise. */
+    private void judgeWhatWas() throws Exception {
+        int rest = below(y.men.size() - 1);
+        int length = below(2 * y.now() + 4);
+        call("row", 2, 0, length);
+        for (int i = 0; i < length && i < 2 * y.now(); i++) call("put", 2, i, y.led(i / 2 * 10 + rest, i % 2));
+        call("judge", 2, rest);
+        if (length > 0) call("put", 2, below(length), below(4));
+        call("judge", 2, rest);
     }
 
     private void tellLaw() throws Exception {
@@ -136,7 +148,7 @@ final class RandomRuns {
         for (int k = 0; k < a.length; k++) a[k] = below(9);
         switch (name) {
             case "sitter": a[0] = below(1000); break;
-            case "sitters": a[0] = below(6); a[1] = below(12); a[2] = 1 + below(8); break;
+            case "sitters": a[0] = below(6); a[1] = below(12) - 1; a[2] = 1 + below(8); break;
             case "wide": a[0] = below(7); a[1] = below(10); break;
             case "hours": a[1] = 100L * below(24) + below(24); a[2] = below(4); break;
             case "mend": a[1] = below(5); a[2] = below(a[1] < 3 ? 10 : 100); break;

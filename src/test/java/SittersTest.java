@@ -87,7 +87,6 @@ final class SittersTest {
         c.same(3, "shelf 6", x.sitters(6, 0, 1), BAD);
         c.same(3, "n 0", x.sitters(0, 0, 0), BAD);
         c.same(3, "n 9", x.sitters(0, 0, 9), BAD);
-        c.same(3, "place -1", x.sitters(0, -1, 1), BAD);
         c.same(3, "nothing there, n 0", x.sitters(5, 0, 0), BAD);
         c.same(3, "nothing there", x.sitters(5, 0, 3), 0);
         for (int sort = 1; sort < 5; sort++) {
@@ -101,6 +100,7 @@ final class SittersTest {
         x.go(0, 1);
         c.same(3, "NOW 1", x.sitters(0, 0, 1), STATE);
         c.same(3, "NOW 1, nothing there", x.sitters(5, 0, 1), STATE);
+        c.same(3, "NOW 1, from place -1", x.sitters(0, -1, 1), STATE);
         c.same(3, "NOW 1, a HOLDING", x.sitters(1, 0, 1), -12);
     }
 
@@ -112,6 +112,13 @@ final class SittersTest {
         c.same(3, "from behind that on", x.sitters(0, 6, 8), 0);
         c.same(3, "from its end on", x.sitters(0, 8, 1), 0);
         c.same(3, "from far on", x.sitters(0, MAX, 8), 0);
+        for (int i : new int[] {-1, -2, -3, -24, MIN, MIN + 1, MAX - 1}) {
+            c.same(3, "from place " + i, x.sitters(0, i, 8), 0);
+            c.same(3, "nothing there, from place " + i, x.sitters(5, i, 1), 0);
+            c.same(3, "n 9, from place " + i, x.sitters(0, i, 9), BAD);
+        }
+        x.row(4, 1, 9);
+        c.same(3, "no ROW of bytes, from place -1", x.sitters(4, -1, 1), -12);
         for (int k = 0; k < 3; k++) {
             Scene.row(x, 1, 0, 9, 9, 9, 0, 0, 0, 5, 5, 5);
             x.put(1, 3 + k, 10);
