@@ -8,6 +8,8 @@ public final class AllTests {
         new SittersTest(checks).runAll();
         new HoursTest(checks).runAll();
         new ShelvesTest(checks).runAll();
+        new EdgesTest(checks).runAll();
+        new RefusalsTest(checks).runAll();
         checks.lookForGaps();
         new LanguageTest(checks).runAll(arguments[0]);
         new RandomRuns(checks).runAll(Integer.parseInt(arguments[1]));
