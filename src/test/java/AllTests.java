@@ -12,6 +12,7 @@ public final class AllTests {
         new RefusalsTest(checks).runAll();
         checks.lookForGaps();
         new LanguageTest(checks).runAll(arguments[0]);
+        new GridRuns(checks).runAll();
         new RandomRuns(checks).runAll(Integer.parseInt(arguments[1]));
         checks.tell("tests");
         if (checks.failed() > 0) System.exit(1);

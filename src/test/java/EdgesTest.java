@@ -493,7 +493,32 @@ final class EdgesTest {
             x.go(seed, 1);
             c.same(12, "the LEFT's by " + seed, x.rest(0, 1), left > right ? 1 : 0);
             c.same(12, "the RIGHT's by " + seed, x.rest(0, 2), right > left ? 1 : 0);
+            seedGoesOn(seed);
         }
+    }
+
+    /** The draws go on within one call, and begin anew with the next. */
+    private void seedGoesOn(int seed) {
+        TwoElbows once = Scene.of(950, 950);
+        TwoElbows twice = Scene.of(950, 950);
+        Scene.law(once, "c");
+        Scene.law(twice, "c");
+        once.wide(0, 9);
+        twice.wide(0, 9);
+        once.go(seed, 3);
+        for (int k = 0; k < 3; k++) twice.go(seed, 1);
+        int z = seed;
+        int first = 0;
+        int held = 0;
+        for (int hour = 0; hour < 3; hour++) {
+            z = z * 1103515245 + 12345;
+            int left = (z >>> 8) % 100;
+            z = z * 1103515245 + 12345;
+            if (left > (z >>> 8) % 100) held++;
+            if (hour == 0) first = held;
+        }
+        c.same(12, "three HOURS by " + seed, once.rest(0, 1), held);
+        c.same(12, "three times one HOUR by " + seed, twice.rest(0, 1), 3 * first);
     }
 
     private void thenAtItsEnds() {

@@ -1,42 +1,24 @@
-import java.lang.reflect.InvocationTargetException;
-import java.lang.reflect.Method;
-import java.util.Arrays;
-import java.util.HashMap;
-import java.util.Map;
-
 /** Runs of calls drawn from a fixed row of numbers: the program and PlainElbows must answer alike. */
 final class RandomRuns {
     private static final int CALLS = 512;
     private static final int[] EXTREMES = {Integer.MIN_VALUE, Integer.MAX_VALUE, -100, -2, -1, 99, 1000, 65536};
 
-    private final Map<String, Method> program = new HashMap<>();
-    private final Map<String, Method> plain = new HashMap<>();
-    private final String[] names;
+    private final String[] names = Both.names();
     private final Checks checks;
     private long state = 1;
-    private TwoElbows x;
+    private Both both;
     private PlainElbows y;
-    private int calls;
 
     RandomRuns(Checks checks) {
         this.checks = checks;
-        for (Method m : TwoElbows.class.getDeclaredMethods()) {
-            if (java.lang.reflect.Modifier.isPublic(m.getModifiers())) program.put(m.getName(), m);
-        }
-        for (Method m : PlainElbows.class.getDeclaredMethods()) {
-            if (java.lang.reflect.Modifier.isPublic(m.getModifiers())) plain.put(m.getName(), m);
-        }
-        names = program.keySet().toArray(new String[0]);
-        Arrays.sort(names);
-        checks.same(0, "both know 36 calls", plain.size() * 100 + program.size(), 3636);
+        checks.same(0, "both know 36 calls", Both.known(), 3636);
     }
 
     void runAll(int runs) throws Exception {
         for (int run = 1; run <= runs && checks.failed() == 0; run++) {
             state = 7919L * run;
-            x = new TwoElbows();
-            y = new PlainElbows();
-            calls = 0;
+            both = new Both(checks, "random run " + run);
+            y = both.y;
             runOne(run);
         }
     }
@@ -44,7 +26,7 @@ final class RandomRuns {
     private void runOne(int run) throws Exception {
         int wild = run % 10 == 0 ? 50 : 3;
         begin(wild);
-        while (calls < CALLS) {
+        while (both.calls() < CALLS) {
             String name = names[below(names.length)];
             if (name.equals("sitter") && below(4) > 0) name = "hours";
             if (name.equals("go") && below(3) > 0) name = "led";
@@ -143,8 +125,7 @@ final class RandomRuns {
     }
 
     private long[] argumentsOf(String name, int wild) {
-        Class<?>[] types = program.get(name).getParameterTypes();
-        long[] a = new long[types.length];
+        long[] a = new long[Both.argumentsOf(name)];
         for (int k = 0; k < a.length; k++) a[k] = below(9);
         switch (name) {
             case "sitter": a[0] = below(1000); break;
@@ -184,28 +165,7 @@ final class RandomRuns {
     }
 
     private void call(String name, long... a) throws Exception {
-        Method m = program.get(name);
-        Object[] arguments = new Object[a.length];
-        for (int k = 0; k < a.length; k++) {
-            if (m.getParameterTypes()[k] == long.class) arguments[k] = a[k];
-            else arguments[k] = (int) a[k];
-        }
-        long got = ((Number) m.invoke(x, arguments)).longValue();
-        calls++;
-        if (got != due(name, arguments)) {
-            checks.same(0, "run of " + state + ", call " + calls + ": " + name + Arrays.toString(a), got, due(name, arguments));
-        } else {
-            checks.countOne();
-        }
-    }
-
-    private long due(String name, Object[] arguments) throws Exception {
-        try {
-            return ((Number) plain.get(name).invoke(y, arguments)).longValue();
-        } catch (InvocationTargetException thrown) {
-            if (thrown.getCause() instanceof PlainElbows.Refused) return ((PlainElbows.Refused) thrown.getCause()).code;
-            throw thrown;
-        }
+        both.call(name, a);
     }
 
     private long next() {
