@@ -1,4 +1,4 @@
-/** Runs every test of the project; argument: the program's source, and how many random runs. */
+/** Runs every test of the project; arguments: the program's source, README.md, and how many random runs. */
 public final class AllTests {
     private AllTests() {
     }
@@ -11,9 +11,11 @@ public final class AllTests {
         new EdgesTest(checks).runAll();
         new RefusalsTest(checks).runAll();
         checks.lookForGaps();
-        new LanguageTest(checks).runAll(arguments[0]);
+        new LanguageTest(checks).runAll();
+        new SourceTest(checks).runAll(arguments[0]);
+        new ReadmeTest(checks).runAll(arguments[1]);
         new GridRuns(checks).runAll();
-        new RandomRuns(checks).runAll(Integer.parseInt(arguments[1]));
+        new RandomRuns(checks).runAll(Integer.parseInt(arguments[2]));
         checks.tell("tests");
         if (checks.failed() > 0) System.exit(1);
     }
